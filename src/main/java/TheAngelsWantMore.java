@@ -528,7 +528,7 @@ public final class TheAngelsWantMore {
             case 'e':
                 return mind.choose(EXCISE, letters.number(next, 1));
             case 'p':
-                return mind.pourOver(letters.number(next, 1), letters.number(place + 2, 1), letters.number(place + 3, 3));
+                return pourComes(place);
             default:
                 return mind.liveOn(letters.number(next, 2));
         }
@@ -537,6 +537,10 @@ public final class TheAngelsWantMore {
     private int caskComes(int place) {
         return mind.addCask(letters.kind(place + 1), letters.number(place + 2, 3), letters.number(place + 5, 3),
                 letters.number(place + 8, 2), letters.number(place + 10, 1));
+    }
+
+    private int pourComes(int place) {
+        return mind.pourOver(letters.number(place + 1, 1), letters.number(place + 2, 1), letters.number(place + 3, 3));
     }
 
     private void thinkOn(int n) {
