@@ -28,7 +28,6 @@ public final class TheAngelsWantMore {
     private static final int MOST_CASKS = 7;
     private static final int MOST_AMOUNT = 400;
     private static final int MOST_STRENGTH = 99;
-    private static final int MOST_FIGURE = 9;
     private static final int MOST_RATE = 40;
     private static final int MOST_LENT_RATE = 80;
     private static final int MOST_YEAR = 999;
@@ -506,11 +505,15 @@ public final class TheAngelsWantMore {
         // The statements come in mind first: with a fault nothing of them may stand.
         mind.become(now);
         int statements = 0;
-        for (int place = 0; place < letters.length; place += letters.statementLength(place)) {
-            if (statementFault(place) != FINE) {
-                return NOT_AS_IT_MUST_BE - place;
+        int first = 0;
+        for (int place = 0; place < letters.length; place++) {
+            if (letters.at(place) == ';') {
+                if (statementFault(first) != FINE) {
+                    return NOT_AS_IT_MUST_BE - first;
+                }
+                statements++;
+                first = place + 1;
             }
-            statements++;
         }
         now.become(mind);
         return statements;
@@ -936,26 +939,21 @@ public final class TheAngelsWantMore {
             return number;
         }
 
-        int statementLength(int place) {
-            return Math.max(shapeOf(at(place)).length(), 1);
-        }
-
         /** The first place at which no town can go on, or NONE. */
         int firstWrong() {
-            int place = 0;
-            do {
-                String shape = shapeOf(at(place));
-                if (shape.isEmpty()) {
+            String shape = "";
+            int within = 0;
+            for (int place = 0; place < length; place++) {
+                if (within == shape.length()) {
+                    shape = shapeOf(at(place));
+                    within = 0;
+                }
+                if (within >= shape.length() || !fits(place, shape.charAt(within))) {
                     return place;
                 }
-                for (int i = 0; i < shape.length(); i++) {
-                    if (!fits(place, shape.charAt(i))) {
-                        return place;
-                    }
-                    place++;
-                }
-            } while (place < length);
-            return NONE;
+                within++;
+            }
+            return length > 0 && within == shape.length() ? NONE : length;
         }
 
         private boolean fits(int place, char shape) {

@@ -52,6 +52,8 @@ public final class BlendTest {
         // The amount goes ahead of the cask: 10 of 50 from cask 2, 20 of 45 from cask 1.
         x = Due.townOf("co400010400;co400020450;co400020500;");
         T.due("pourFor(0, 43)", x.pourFor(0, 43), 2005);
+        T.due("pourFor(0, 0)", Due.townOf("co400100000;co400001990;").pourFor(0, 0), 1001);
+        T.due("pourFor(0, 99)", Due.townOf("co400100990;co400001990;").pourFor(0, 99), 1001);
         T.due("a cask alone", Due.townOf("co400010400;").pourFor(0, 40), -9);
         T.due("nothing in the other", Due.townOf("co400010400;co400000400;").pourFor(0, 40), -9);
         T.due("as strong", Due.townOf("co400010400;co400001400;").pourFor(0, 40), 1001);
@@ -87,6 +89,14 @@ public final class BlendTest {
         x = Due.townOf("co100001400;co100002410;co100001420;");
         T.due("blend(40), cut", x.blend(40), 1);
         T.due("blend(41)", x.blend(41), 2);
+        T.due("blend(99) of 0", Due.townOf("co100001000;co100002000;").blend(99), 1);
+        T.due("blend(0) of 99", Due.townOf("co100001990;co100002990;").blend(0), 1);
+        T.due("blend(0) of 0 and 1", Due.townOf("co100001010;co100002000;co100001000;").blend(0), 1);
+        x = Due.townOf("co100010400;co100000990;co100010480;");
+        x.fill(0, 0);
+        x.fill(1, 1);
+        T.due("blend(40) of what is there now", x.blend(40), 2);
+        T.due("blend(99)", x.blend(99), 1);
         T.due("seven casks", Due.townOf("co100001000;co100001000;co100001000;co100001000;co100001000;co100001990;co100001990;")
                 .blend(99), 56);
     }
@@ -119,6 +129,7 @@ public final class BlendTest {
         x.fill(3, 1);
         T.due("spread() of 99 and 0", x.spread(), 99);
         T.due("spread() of none", new TheAngelsWantMore().spread(), -9);
+        T.due("spread() of 99 alone", Due.townOf("co100001990;").spread(), 0);
         T.due("spread() of 0 alone", Due.townOf("co100001000;").spread(), 0);
     }
 

@@ -14,6 +14,7 @@ public final class MindTest {
         turns();
         hum();
         nothingChanges();
+        whatWasThoughtIsForgotten();
         T.end();
     }
 
@@ -252,6 +253,44 @@ public final class MindTest {
             T.due("taken", slow.cask(0, 5), 80);
             T.due("hum(0) from year " + year + " on", slow.hum(0), year == 7 ? 200 : -9);
         }
+    }
+
+    /** A town with a fault leaves no cask behind, and what came since the last thought is thought of in the next. */
+    private static void whatWasThoughtIsForgotten() {
+        T.part("10 to 17, what was thought is forgotten");
+        TheAngelsWantMore x = new TheAngelsWantMore();
+        T.due("a fault behind casks", Due.town(x, OAK + OAK + "r39;l1;y09;l0;"), -2035);
+        x.allBehind(0, 0);
+        T.due("a fault behind casks", Due.town(x, OAK + OAK + "r39;l1;y09;l0;"), -2035);
+        T.due("takes", x.takes(0, 100, 10), -1);
+        T.due("behind", x.behind(0, 1, 0), -1);
+        T.due("a fault behind casks", Due.town(x, OAK + OAK + "r39;l1;y09;l0;"), -2035);
+        T.due("low", x.low(0, 400), -1);
+        T.due("hum", x.hum(0), -1);
+        T.due("pourFor", x.pourFor(0, 50), -1);
+        T.due("blend", x.blend(50), -9);
+        T.due("spread", x.spread(), -9);
+        T.due("sell", x.sell(0), -9);
+        T.due("a fault behind casks", Due.town(x, OAK + OAK + "r39;l1;y09;l0;"), -2035);
+        T.due("iron", x.iron(1), -9);
+        T.due("a fault behind casks", Due.town(x, OAK + OAK + "r39;l1;y09;l0;"), -2035);
+        T.due("layDown", x.layDown(1), -9);
+        T.due("a fault behind casks", Due.town(x, OAK + OAK + "r39;l1;y09;l0;"), -2035);
+        T.due("which", x.which(0, 0), -1);
+        T.due("judge", x.judge(0), -1);
+        T.due("chance", x.chance(0, 0, 0, 2, 0), Due.refused(-1));
+        T.due("theirs", x.theirs(0, 0, 0), Due.refused(-1));
+        T.due("excise", x.excise(0), -1);
+        T.due("a cask", Due.town(x, "ch100100200;r40;l9;"), 3);
+        T.due("takes", x.takes(0, 39, 10), 3);
+        x.years(1);
+        T.due("takes, 40 taken", x.takes(0, 39, 10), 6);
+        x.fill(0, 7);
+        T.due("behind", x.behind(0, 0, 0), 7);
+        T.due("a fault behind a rate", Due.town(x, "r10;l1;y09;l0;"), -2011);
+        T.due("turns", x.turns(), -9);
+        T.due("treaty", x.treaty(1), 10);
+        T.due("chance, rate 40", x.chance(0, 3, 1, 2, 0), 1);
     }
 
     private static void nothingChanges() {
