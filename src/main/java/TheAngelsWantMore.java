@@ -627,7 +627,7 @@ public final class TheAngelsWantMore {
     }
 
     private static int drawn(int z, int below) {
-        return below > 0 ? ((z & Integer.MAX_VALUE) / 256) % below : 0;
+        return below > 0 ? ((z & 0x7fffffff) / 256) % below : 0;
     }
 
     private static long power(long base, int n) {

@@ -235,6 +235,9 @@ public final class MindTest {
         T.due("sherry, just half in year 3", Due.townOf("cs100020502;").hum(0), 3);
         T.due("sherry, from year 2 on", Due.townOf("cs100020502;y02;").hum(0), 1);
         T.due("sherry, half now", Due.townOf("cs100020502;y03;").hum(0), 0);
+        T.due("all of 1", Due.townOf("cs100001501;").hum(0), 1);
+        T.due("all of 1 by now", Due.townOf("cs100001501;y01;").hum(0), 0);
+        T.due("1 of 2", Due.townOf("cs100002501;").hum(0), 1);
         T.due("iron", Due.townOf("ci100100500;").hum(0), -9);
         T.due("nothing", Due.townOf("co100000500;").hum(0), -9);
         T.due("without a rate", Due.townOf("r00;co100100500;").hum(0), -9);
