@@ -85,13 +85,16 @@ public final class ChanceTest {
     private static void lots() {
         T.part("30 lots");
         int[] seeds = {0, 7, -1, Integer.MAX_VALUE, Integer.MIN_VALUE};
-        int[][] lents = {{6, 4, 1, 6, 2, 6, 6, 3}, {7, 3, 6, 2, 6, 6, 1, 4}, {2, 3, 9, 1, 5, 6, 8, 5},
-            {2, 3, 9, 1, 5, 6, 8, 5}, {6, 4, 1, 6, 2, 6, 6, 3}};
+        int[][] lents = {{6, 4, 1, 6, 2, 6, 6, 3, 4, 7, 4, 4, 6, 3, 5, 4, 2, 7, 4, 1},
+            {7, 3, 6, 2, 6, 6, 1, 4, 7, 9, 5, 7, 6, 1, 3, 4, 1, 7, 4, 1},
+            {2, 3, 9, 1, 5, 6, 8, 5, 8, 9, 1, 5, 4, 8, 3, 5, 1, 3, 1, 1},
+            {2, 3, 9, 1, 5, 6, 8, 5, 8, 9, 1, 5, 4, 8, 3, 5, 1, 3, 1, 1},
+            {6, 4, 1, 6, 2, 6, 6, 3, 4, 7, 4, 4, 6, 3, 5, 4, 2, 7, 4, 1}};
         String town = "co300300400;cm200120500;cb100090403;cs250200302;y03;";
         for (int s = 0; s < seeds.length; s++) {
             int amounts = 0;
             int taken = 0;
-            for (int n = 1; n <= 8; n++) {
+            for (int n = 1; n <= 20; n++) {
                 TheAngelsWantMore one = Due.townOf(town);
                 one.set(1, lents[s][n - 1]);
                 one.years(20);

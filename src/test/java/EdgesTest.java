@@ -17,6 +17,9 @@ public final class EdgesTest {
         "co100100500;cm100090600;cb090030404;ci050000990;cs100040502;ch120120205;co400001010;e7;y09;",
     };
 
+    // An object is promised for 512 calls: behind so many another one goes on.
+    private static final int CALLS = 300;
+
     private static int wrong = 0;
     private static int compared = 0;
 
@@ -42,22 +45,20 @@ public final class EdgesTest {
     private static void allOf(Method method, String town) throws Exception {
         Class<?>[] types = method.getParameterTypes();
         Method due = Oracle.class.getDeclaredMethod(method.getName(), types);
-        TheAngelsWantMore x = new TheAngelsWantMore();
-        Oracle o = new Oracle();
-        for (char c : town.toCharArray()) {
-            x.letter(c);
-            o.letter(c);
-        }
-        same(method, town, List.of(), x.town(), o.town());
-        for (int v : new int[] {50, 45, 40}) {
-            same(method, town, List.of(), x.row(v), o.row(v));
-        }
         int[] numbers = types.length < 3 ? MANY : types.length == 3 ? SOME : FEW;
         int all = 1;
         for (int i = 0; i < types.length; i++) {
             all *= numbers.length;
         }
+        TheAngelsWantMore x = new TheAngelsWantMore();
+        Oracle o = new Oracle();
         for (int k = 0; k < all && wrong < 20; k++) {
+            if (k % CALLS == 0) {
+                sameCounts(method, town, x, o);
+                x = new TheAngelsWantMore();
+                o = new Oracle();
+                tell(method, town, x, o);
+            }
             List<Object> with = new ArrayList<>();
             for (int i = 0, rest = k; i < types.length; i++, rest /= numbers.length) {
                 with.add(numbers[rest % numbers.length]);
@@ -66,6 +67,21 @@ public final class EdgesTest {
             Number want = (Number) due.invoke(o, with.toArray());
             same(method, town, with, got.longValue(), want.longValue());
         }
+        sameCounts(method, town, x, o);
+    }
+
+    private static void tell(Method method, String town, TheAngelsWantMore x, Oracle o) {
+        for (char c : town.toCharArray()) {
+            x.letter(c);
+            o.letter(c);
+        }
+        same(method, town, List.of(), x.town(), o.town());
+        for (int v : new int[] {50, 45, 40}) {
+            same(method, town, List.of(), x.row(v), o.row(v));
+        }
+    }
+
+    private static void sameCounts(Method method, String town, TheAngelsWantMore x, Oracle o) {
         for (int what = 0; what <= 16; what++) {
             same(method, town + " then count", List.of(what), x.count(what), o.count(what));
         }

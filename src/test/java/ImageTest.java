@@ -9,6 +9,7 @@ public final class ImageTest {
         anotherImage();
         count();
         refusalsOfEachNumber();
+        theLastOf512Calls();
         T.end();
     }
 
@@ -137,5 +138,19 @@ public final class ImageTest {
         x.chance(0, 0, 9, 2, 0);
         T.due("count(11)", x.count(11), 6);
         T.due("count(16)", x.count(16), 2);
+    }
+
+    private static void theLastOf512Calls() {
+        T.part("an object is used for at most 512 calls");
+        TheAngelsWantMore x = new TheAngelsWantMore();
+        for (int i = 1; i <= 511; i++) {
+            x.years(61);
+        }
+        T.due("count(16)", x.count(16), 511);
+        x = Due.townOf("co300300400;");
+        for (int i = 14; i <= 511; i++) {
+            T.due("fill(0, " + i % 300 + ")", x.fill(0, i % 300), i == 14 ? 300 : (i - 1) % 300);
+        }
+        T.due("count(5)", x.count(5), 511 % 300);
     }
 }

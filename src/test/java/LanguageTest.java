@@ -111,13 +111,16 @@ public final class LanguageTest {
     private static void noObjectsInCalls() {
         com.sun.management.ThreadMXBean bean =
                 (com.sun.management.ThreadMXBean) java.lang.management.ManagementFactory.getThreadMXBean();
-        TheAngelsWantMore x = Due.townOf("co100100500;cm100090600;cb090030404;ci050000990;cs100040502;ch120120205;e7;y09;");
+        TheAngelsWantMore[] towns = new TheAngelsWantMore[50];
+        for (int i = 0; i < towns.length; i++) {
+            towns[i] = Due.townOf("co100100500;cm100090600;cb090030404;ci050000990;cs100040502;ch120120205;e7;y09;");
+            everyCall(towns[i]);
+        }
         long id = Thread.currentThread().getId();
-        everyCall(x);
         bean.getThreadAllocatedBytes(id);
         long before = bean.getThreadAllocatedBytes(id);
-        for (int i = 0; i < 50; i++) {
-            everyCall(x);
+        for (int i = 0; i < towns.length; i++) {
+            everyCall(towns[i]);
         }
         long made = bean.getThreadAllocatedBytes(id) - before;
         must(made < 1000, "calls make no objects, but " + made + " bytes were made");

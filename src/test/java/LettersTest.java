@@ -84,65 +84,68 @@ public final class LettersTest {
         T.due("refusals of the counted", x.count(11) + x.count(12) + x.count(14) + x.count(16), 0);
     }
 
+    /** What a new object answers to the letters of a text; no FAULT is a refusal. */
+    private static int town(String text) {
+        TheAngelsWantMore x = new TheAngelsWantMore();
+        int answer = Due.town(x, text);
+        T.due("count of refusals", x.count(11) + x.count(12) + x.count(13) + x.count(14) + x.count(16), 0);
+        return answer;
+    }
+
     private static void faultsOfTheFirstKind() {
         T.part("3 town, fault 1");
-        TheAngelsWantMore x = new TheAngelsWantMore();
-        T.due("no letters", x.town(), -1000);
+        T.due("no letters", town(""), -1000);
         String[] statements = {"co400300201;", "cm400300201;", "cb400300201;", "ci400300201;", "cs400300201;",
             "ch400300201;", "r10;", "l4;", "e2;", "p01005;", "y01;"};
         for (String statement : statements) {
             for (int place = 0; place < statement.length(); place++) {
                 String ahead = statement.substring(0, place);
-                T.due("town of " + ahead, Due.town(x, ahead), -1000 - place);
+                T.due("town of " + ahead, town(ahead), -1000 - place);
                 for (char c : new char[] {'x', '/', ':', '0' - 1, '9' + 1, 'C', 0, 255, ' ', ';', 'o', '5'}) {
                     char right = statement.charAt(place);
                     boolean fits = c == right || place > 0 && right >= '0' && right <= '9' && c == '5'
                             || place == 1 && statement.charAt(0) == 'c' && c == 'o';
                     if (!fits) {
-                        T.due("town of " + ahead + "(" + (int) c + ")", Due.town(x, ahead + c + "co"), -1000 - place);
+                        T.due("town of " + ahead + "(" + (int) c + ")", town(ahead + c + "co"), -1000 - place);
                     }
                 }
             }
-            T.due("a letter behind " + statement, Due.town(x, statement + ";"), -1000 - statement.length());
-            T.due("half a statement behind " + statement, Due.town(x, statement + "r1"), -1002 - statement.length());
+            T.due("a letter behind " + statement, town(statement + ";"), -1000 - statement.length());
+            T.due("half a statement behind " + statement, town(statement + "r1"), -1002 - statement.length());
         }
         for (int c = 0; c < 256; c++) {
             boolean head = "crlepy".indexOf(c) >= 0;
-            T.due("letter " + c + " first", Due.town(x, "" + (char) c), head ? -1001 : -1000);
+            T.due("letter " + c + " first", town("" + (char) c), head ? -1001 : -1000);
             boolean kind = "ombish".indexOf(c) >= 0;
-            T.due("letter " + c + " for a kind", Due.town(x, "c" + (char) c), kind ? -1002 : -1001);
+            T.due("letter " + c + " for a kind", town("c" + (char) c), kind ? -1002 : -1001);
             boolean digit = c >= '0' && c <= '9';
-            T.due("letter " + c + " for a digit", Due.town(x, "r" + (char) c), digit ? -1002 : -1001);
+            T.due("letter " + c + " for a digit", town("r" + (char) c), digit ? -1002 : -1001);
         }
-        T.due("a fault of both kinds", Due.town(x, "r41;l0;x"), -1007);
-        T.due("a fault of both kinds, the end", Due.town(x, "r41;e"), -1005);
+        T.due("a fault of both kinds", town("r41;l0;x"), -1007);
+        T.due("a fault of both kinds, the end", town("r41;e"), -1005);
         String full = "co100000000;co100000000;co100000000;co100000000;co100000000;co100000000;co100000000;co1000000001";
         T.due("96 letters without the last", full.length(), 96);
-        T.due("96 letters, the last no ;", Due.town(x, full), -1095);
-        T.due("96 letters, a town", Due.town(x, full.substring(0, 84) + "r10;r10;y10;"), 10);
-        x = new TheAngelsWantMore();
-        T.due("96 letters, the end", Due.town(x, full.substring(0, 84) + "r10;r10;l4;e"), -1096);
-        T.due("count of refusals", x.count(11) + x.count(12) + x.count(13) + x.count(14) + x.count(16), 0);
+        T.due("96 letters, the last no ;", town(full), -1095);
+        T.due("96 letters, a town", town(full.substring(0, 84) + "r10;r10;y10;"), 10);
+        T.due("96 letters, the end", town(full.substring(0, 84) + "r10;r10;l4;e"), -1096);
     }
 
     private static void faultsOfTheSecondKind() {
         T.part("3 town, fault 2");
-        TheAngelsWantMore x = new TheAngelsWantMore();
         String[] faults = {"co000000000;", "co401000000;", "co999000000;", "co100101000;", "cm001002000;", "r41;", "r99;",
             "l0;", "y00;", "y61;", "y99;", "p01001;", "p00001;", "p99000;"};
         for (String fault : faults) {
-            T.due("town of " + fault, Due.town(x, fault), -2000);
-            T.due("town of r10;" + fault, Due.town(x, "r10;" + fault), -2004);
-            T.due("town of r10;l4;" + fault + "l0;", Due.town(x, "r10;l4;" + fault + "l0;"), -2007);
+            T.due("town of " + fault, town(fault), -2000);
+            T.due("town of r10;" + fault, town("r10;" + fault), -2004);
+            T.due("town of r10;l4;" + fault + "l0;", town("r10;l4;" + fault + "l0;"), -2007);
         }
         for (int rate = 0; rate < 100; rate++) {
-            T.due("rate " + rate, Due.town(x, "r" + rate / 10 + rate % 10 + ";"), rate <= 40 ? 1 : -2000);
+            T.due("rate " + rate, town("r" + rate / 10 + rate % 10 + ";"), rate <= 40 ? 1 : -2000);
         }
         for (int digit = 0; digit < 10; digit++) {
-            T.due("lent " + digit, Due.town(x, "l" + digit + ";"), digit > 0 ? 1 : -2000);
-            T.due("excise " + digit, Due.town(x, "e" + digit + ";"), 1);
+            T.due("lent " + digit, town("l" + digit + ";"), digit > 0 ? 1 : -2000);
+            T.due("excise " + digit, town("e" + digit + ";"), 1);
         }
-        T.due("count of refusals", x.count(11) + x.count(12) + x.count(13) + x.count(14) + x.count(16), 0);
     }
 
     private static void yearsInATown() {
@@ -173,11 +176,11 @@ public final class LettersTest {
         T.due("strength 0", x.cask(0, 3), 40);
         String[] no = {"p01011;", "p10051;", "p00001;", "p11001;", "p02001;", "p20001;", "p01000;", "p01401;"};
         for (String pour : no) {
-            T.due(pour, Due.town(new TheAngelsWantMore(), two + pour), -2024);
+            T.due(pour, town(two + pour), -2024);
         }
-        T.due("a cask told later", Due.town(new TheAngelsWantMore(), "co100050400;p01005;cm100090600;"), -2012);
-        T.due("all of 400", Due.town(new TheAngelsWantMore(), "co400400100;co400000200;p01400;"), 3);
-        T.due("twice as much as there is", Due.town(new TheAngelsWantMore(), two + "p10050;p10001;"), -2031);
+        T.due("a cask told later", town("co100050400;p01005;cm100090600;"), -2012);
+        T.due("all of 400", town("co400400100;co400000200;p01400;"), 3);
+        T.due("twice as much as there is", town(two + "p10050;p10001;"), -2031);
     }
 
     private static void roomForCasks() {

@@ -2,8 +2,10 @@ import java.util.Random;
 
 /** All promises: runs of calls at random, each answer compared with the oracle's. */
 public final class OracleTest {
-    private static final int RUNS = 600;
+    private static final int RUNS = 1400;
+    // An object is promised for 512 calls: a run begins no more behind these, and one step makes 110 at the most.
     private static final int CALLS = 400;
+    private static final int TELLING = 200;
     private static final int[] EDGES = {Integer.MIN_VALUE, -1000, -3, -2, -1, 0, 1, 2, 3, 6, 7, 8, 9, 10, 19, 20, 21, 40,
         41, 59, 60, 61, 79, 80, 81, 99, 100, 199, 200, 201, 255, 256, 399, 400, 401, 999, 1000, Integer.MAX_VALUE};
 
@@ -13,6 +15,7 @@ public final class OracleTest {
     private static StringBuilder trail;
     private static int wrong = 0;
     private static int compared = 0;
+    private static int calls = 0;
 
     public static void main(String[] args) {
         for (int run = 0; run < RUNS && wrong < 5; run++) {
@@ -22,10 +25,11 @@ public final class OracleTest {
             trail = new StringBuilder();
             int before = wrong;
             boolean wild = run % 3 == 0;
-            for (int i = 0; i < 9 && o.count(0) <= run % 4 && run % 20 != 19; i++) {
+            calls = 0;
+            while (calls < TELLING && o.count(0) <= run % 4 && run % 20 != 19) {
                 tell(aTown());
             }
-            for (int i = 0; i < CALLS && wrong == before; i++) {
+            for (int i = 0; i < CALLS && calls < CALLS && wrong == before; i++) {
                 call(wild);
             }
         }
@@ -37,6 +41,7 @@ public final class OracleTest {
 
     private static void same(String call, long got, long want) {
         compared++;
+        calls++;
         trail.append(call).append(" = ").append(got).append('\n');
         if (got != want) {
             wrong++;
@@ -207,8 +212,9 @@ public final class OracleTest {
                 same("pourFor(" + cask + ", " + strength + ")", x.pourFor(cask, strength), o.pourFor(cask, strength));
                 break;
             case 9: {
-                int near = Math.max(0, Math.min(99, o.behind(0, 0, 1) + below(7) - 3));
-                x.behind(0, 0, 1);
+                int strong = o.behind(0, 0, 1);
+                same("behind(0, 0, 1)", x.behind(0, 0, 1), strong);
+                int near = Math.max(0, Math.min(99, strong + below(7) - 3));
                 same("pourFor(" + cask + ", " + near + ")", x.pourFor(cask, near), o.pourFor(cask, near));
                 break;
             }

@@ -34,6 +34,8 @@ public final class TreatyTest {
         // Half of rate 1 is 0, cut.
         T.due("rate 1", Due.townOf("r01;co100100500;").treaty(1), 0);
         T.due("rate 1, in a Lent", Due.townOf("r01;co100100500;y01;").treaty(1), 10);
+        // Half of rate 3 is 1, cut: in Lents that takes nothing of 26. By 2 the angels would have 2, rather than 1 by 3.
+        T.due("rate 3", Due.townOf("r03;cb100026503;").treaty(8), 0);
         // Year 8 is a Lent by either; behind it only the angels' choice counts.
         T.due("year 8", Due.townOf("co100100500;y07;").treaty(1), 0);
     }
