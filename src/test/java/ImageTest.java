@@ -7,6 +7,7 @@ public final class ImageTest {
         imageAndOn();
         whatAnImageLeavesOut();
         anotherImage();
+        casksThatAreNoMore();
         count();
         refusalsOfEachNumber();
         theLastOf512Calls();
@@ -89,6 +90,37 @@ public final class ImageTest {
         T.due("image() later", x.image(), 17);
         x.years(5);
         T.due("on() later", x.on(), 17);
+    }
+
+    private static void casksThatAreNoMore() {
+        T.part("32 on: casks that came behind the image are in nothing that is asked");
+        TheAngelsWantMore x = Due.townOf("ci100055400;");
+        x.image();
+        Due.town(x, "cb100095900;ch100095990;y05;");
+        T.due("three casks", x.allBehind(0, 1) > 0 ? x.count(0) : 0, 3);
+        T.due("spread() of three", x.spread(), 59);
+        x.on();
+        T.due("count(0)", x.count(0), 1);
+        T.due("count(5)", x.count(5), 55);
+        T.due("count(6)", x.count(6), 0);
+        T.due("allBehind(9, 0)", x.allBehind(9, 0), 55);
+        T.due("allBehind(9, 1)", x.allBehind(9, 1), 0);
+        T.due("allBehind(9, 2)", x.allBehind(9, 2), 0);
+        T.due("theirs(-1, 9, 0)", x.theirs(-1, 9, 0), 0);
+        T.due("theirs(1, 9, 0)", x.theirs(1, 9, 0), Due.refused(-1));
+        T.due("excise(-1)", x.excise(-1), 10);
+        T.due("exciseIn(3)", x.exciseIn(3), 30);
+        T.due("blend(90)", x.blend(90), -9);
+        T.due("spread()", x.spread(), 0);
+        T.due("layDown(0)", x.layDown(0), 0);
+        T.due("layDown(9)", x.layDown(9), 0);
+        T.due("sell(9)", x.sell(9), 0);
+        T.due("pourFor(0, 90)", x.pourFor(0, 90), -9);
+        T.due("lots(1, 5, 0)", x.lots(1, 5, 0), 55);
+        T.due("lots(1, 5, 1)", x.lots(1, 5, 1), 0);
+        x.fill(0, 0);
+        T.due("spread() of nothing", x.spread(), -9);
+        T.due("sell(9) of nothing", x.sell(9), -9);
     }
 
     private static void count() {
